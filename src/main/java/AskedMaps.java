@@ -454,8 +454,9 @@ public final class AskedMaps {
         }
         spited.empty();
         long held = waysOf(allMaps());
+        boolean some = canHold(held);
         for (int w = 0; w < ways.many; w++) {
-            spited.see(w, costOf(held | 1L << w));
+            spited.see(w, some ? costOf(held | 1L << w) : NONE);
         }
         spited.known = true;
     }
@@ -937,7 +938,8 @@ public final class AskedMaps {
             }
             for (int w = 0; w < all.many; w++) {
                 int bits = all.laneBits[w];
-                if (all.isShortest(w) && (bits & takenBits) == takenBits && (bits & leftBits) == 0) {
+                boolean asTook = (bits & takenBits) == takenBits && (bits & leftBits) == 0;
+                if (asTook && all.isShortest(w)) {
                     addFitting(bits);
                 }
             }
@@ -1010,7 +1012,7 @@ public final class AskedMaps {
             return goFirst(this, 0, most);
         }
 
-        /** Goes through LENGTHS from the nearest to the farthest, so that dear ones are left out. */
+        /** Goes from the nearest LENGTH to the farthest, so that most dear ones are left out. */
         private static void goCheapest(Search of, int l, int cost) {
             if (l >= of.lanes) {
                 of.least = Math.min(of.least, cost);
@@ -1198,28 +1200,27 @@ public final class AskedMaps {
                 next++;
             }
             start = next;
-            if (next >= size) {
-                token = END;
-                return;
-            }
-            if (isDigit(letters[next])) {
-                readNumber();
-                return;
-            }
-            int letter = letters[next];
-            boolean known = letter == 'n' || letter == 'l' || letter == 'm' || letter == ';';
-            token = known ? letter : WRONG;
-            next++;
-        }
-
-        private void readNumber() {
             value = 0;
             while (next < size && isDigit(letters[next])) {
-                value = Math.min(100, value * 10 + letters[next] - '0');
+                value = value > 99 ? value : value * 10 + letters[next] - '0';
                 next++;
             }
-            boolean zeroAhead = letters[start] == '0' && next - start > 1;
-            token = zeroAhead || value > 99 ? WRONG : NUMBER;
+            token = next > start ? numberToken() : letterToken();
+        }
+
+        private int numberToken() {
+            boolean zeroAhead = next - start > 1 && letters[start] == '0';
+            return zeroAhead || value > 99 ? WRONG : NUMBER;
+        }
+
+        private int letterToken() {
+            if (next >= size) {
+                return END;
+            }
+            int letter = letters[next];
+            next++;
+            boolean known = letter == 'n' || letter == 'l' || letter == 'm' || letter == ';';
+            return known ? letter : WRONG;
         }
 
         private static boolean isDigit(int letter) {
