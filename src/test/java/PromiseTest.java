@@ -477,6 +477,8 @@ public final class PromiseTest {
         }
         x = Check.made("n5;l0 1 1 1;l0 2 1 1;l0 3 1 1;l4 1 1 1;l4 2 1 1;l4 3 1 1;");
         due("by(0, 4) of three", x.by(0, 4), 3);
+        x.digs(0, 2);
+        due("by(0, 4) of two", x.by(0, 4), 2);
         due("WAYS of it", x.spite(2), 33);
     }
 
@@ -515,6 +517,8 @@ public final class PromiseTest {
         due("asking(0)", x.asking(0), 2);
         due("asking(1)", x.asking(1), 3);
         due("asking(2)", x.asking(2), 5);
+        x = Check.made("n3;l0 1 5 1;l1 2 1 1;l0 2 1 1;m0 2;");
+        due("a LANE that nobody asked for may be long", x.asking(-1), 0);
         x = Check.made(THREE + "m0 1 2;m0 2 1;");
         due("asking(-1), NONE", x.asking(-1), NONE);
         due("asking(0), NONE", x.asking(0), NONE);
