@@ -26,6 +26,8 @@ public final class FaceTest {
         face(check);
         constants(check);
         rules(check);
+        insides(check);
+        lengthsOfMethods(check);
         check.close("FaceTest");
     }
 
@@ -101,5 +103,58 @@ public final class FaceTest {
             many++;
         }
         check.due("more than twelve classes", many > 12 ? 1 : 0, 0);
+    }
+
+    /** Rules 1, 3, 5 and 11, as far as the compiled classes show them. */
+    private static void insides(Check check) {
+        Set<String> shown = new TreeSet<>();
+        for (String method : METHODS) {
+            shown.add(method.substring(method.indexOf(' ') + 1, method.indexOf('(')));
+        }
+        for (Class<?> inside : AskedMaps.class.getDeclaredClasses()) {
+            for (Method m : inside.getDeclaredMethods()) {
+                check.due(m + " bears a public method's name", shown.contains(m.getName()) ? 1 : 0, 0);
+            }
+            insides(check, inside);
+        }
+        insides(check, AskedMaps.class);
+    }
+
+    private static void insides(Check check, Class<?> of) {
+        int fields = 0;
+        for (Field f : of.getDeclaredFields()) {
+            boolean fixed = Modifier.isStatic(f.getModifiers());
+            fields += fixed ? 0 : 1;
+            check.due(f + " is static and can change", fixed && !Modifier.isFinal(f.getModifiers()) ? 1 : 0, 0);
+            Class<?> type = f.getType();
+            while (type.isArray()) {
+                type = type.getComponentType();
+            }
+            boolean own = type.getNestHost() == AskedMaps.class;
+            check.due(f + " is of a type that may be", type.isPrimitive() || own && !fixed ? 1 : 0, 1);
+        }
+        check.due(of + " has more than twenty fields", fields > 20 ? 1 : 0, 0);
+        for (Method m : of.getDeclaredMethods()) {
+            check.due(m + " has more than seven parameters", m.getParameterCount() > 7 ? 1 : 0, 0);
+        }
+    }
+
+    /** Rule 11: a method's end stands as far to the right as its beginning. */
+    private static void lengthsOfMethods(Check check) throws IOException {
+        String[] lines = Files.readString(Path.of("src/main/java/AskedMaps.java")).split("\n");
+        Pattern start = Pattern.compile("( +)(?!.*\\b(class|if|for|while|switch|else)\\b).*\\) \\{");
+        int methods = 0;
+        for (int i = 0; i < lines.length; i++) {
+            Matcher m = start.matcher(lines[i]);
+            if (m.matches()) {
+                int end = i;
+                while (end < lines.length && !lines[end].equals(m.group(1) + "}")) {
+                    end++;
+                }
+                methods++;
+                check.due("more than sixty lines from line " + (i + 1), end - i + 1 > 60 ? 1 : 0, 0);
+            }
+        }
+        check.due("methods are found", methods > METHODS.length ? 1 : 0, 1);
     }
 }

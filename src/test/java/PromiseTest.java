@@ -4,11 +4,7 @@ public final class PromiseTest {
     private static final int NONE = AskedMaps.NONE, NO = AskedMaps.NO;
     private static final int LOW = Integer.MIN_VALUE, HIGH = Integer.MAX_VALUE;
 
-    /** A ring of four, each LANE 1 long, SPADES 2, 3, 4, 5. */
-    private static final String RING = "n4;l0 1 1 2;l1 2 1 3;l2 3 1 4;l3 0 1 5;";
-    /** A triangle, each LANE 1 long, SPADES 1. */
-    private static final String THREE = "n3;l0 1 1 1;l1 2 1 1;l0 2 1 1;";
-    private static final String CHAIN = "n5;l0 1 1 1;l1 2 2 1;l2 3 3 1;l3 4 4 1;";
+    private static final String RING = Lands.RING, THREE = Lands.THREE, CHAIN = Lands.CHAIN;
 
     private final Check check = new Check();
 
