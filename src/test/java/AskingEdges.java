@@ -113,6 +113,9 @@ final class AskingEdges {
         Check.draft(x, 1, 3);
         due("and a DRAFT of such, which has LANE 1 dug from 5 to 2", x.asking(-1), 3);
         due("LANE 1", x.asking(1), 2);
+        x = Check.made("n4;l2 3 1 1;l1 3 3 1;l0 3 2 1;l0 1 2 1;l0 2 2 1;l1 2 1 1;m0 1;m0 2;m0 3;m1 2;");
+        Check.draft(x, 1, 3);
+        due("and a DRAFT longer than the last of the other four WAYS alone", x.asking(-1), 1);
         doc.says("those by which what is dug costs least (SPADES of each LANE times what its LENGTH changes, together),");
         x = Check.made("n3;l0 1 4 5;l1 2 4 4;l0 2 5 2;m0 1 2;");
         due("3 steps of 4", x.asking(-1), 12);
@@ -345,6 +348,7 @@ final class AskingEdges {
         due("one LANE", x.knot(4), 45);
         x.digs(3, 1);
         due("as it is NOW", x.knot(4), 9);
+        due("three of six LANES", Check.made(Lands.SIX).knot(4), 3);
         due("no LANES", new AskedMaps().knot(1), 0);
         due("none at it", Check.made("n3;l0 1 5 9;").knot(2), 0);
     }

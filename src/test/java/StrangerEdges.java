@@ -92,8 +92,15 @@ final class StrangerEdges {
         due("LANE 0: 2 of 4 by it", x.look(), 0);
         x.took(0, 0);
         due("one that none took tells nothing", x.look(), 2);
+        x = Check.made("n5;l0 1 1 1;l0 2 1 1;l0 3 1 1;l1 2 1 1;l1 3 1 1;l3 4 1 1;");
+        for (int l = 0; l < 5; l++) {
+            x.took(l, l == 2 ? 1 : 0);
+        }
+        due("0 3 and 0 3 4", x.can(0), 2);
+        due("LANE 5", x.look(), 5);
         doc.says("of several the lowest;");
         due("as good ones", Check.made(Lands.RING).look(), 0);
+        due("six as good ones", Check.made(Lands.SIX).look(), 0);
         x = Check.made(Lands.THREE);
         due("1 of 3 each", x.look(), 0);
         x.took(0, 0);
