@@ -1,6 +1,6 @@
 /**
- * Everything that calls can tell of an object, as one text: how it is, how it is behind each
- * undo() and each back(), and what its text reads as. The object is used up by it.
+ * What calls tell of an object, as one text: how it is, how it is behind each undo() and each
+ * back(), and what its text reads as. The object is used up by it.
  */
 final class Probe {
     private final AskedMaps x;

@@ -1,7 +1,7 @@
 import java.util.function.Supplier;
 import java.util.function.ToLongFunction;
 
-/** What is refused, and what only asks, changes nothing: told by all that an object can tell. */
+/** What is refused, and what only asks, changes nothing: two objects are compared by their Probe. */
 final class RefusedEdges {
     private static final int BAD = AskedMaps.BAD, STATE = AskedMaps.STATE, FULL = AskedMaps.FULL;
     private static final int NONE = AskedMaps.NONE, NO = AskedMaps.NO;
